@@ -32,6 +32,7 @@ public final class EnemyLetters {
     private static final int LAWS = 4;
     private static final int SKILLS = 6;
     private static final int SKILL_SETS = 64;
+    private static final int ALL_SKILLS = 63;
     private static final int DEEPEST_HATE = -60;
     private static final int GREATEST_WRONG = 40;
     private static final int GREATEST_LEAST = 120;
@@ -393,7 +394,7 @@ public final class EnemyLetters {
         int n = 0;
         for (int q = 0; q < told.posts; q++) {
             int who = now.winner[q];
-            if (who != NONE && (now.writersOf(who, q, told.everybody()) >> person & 1) == 1) {
+            if (who != NONE && isIn(person, now.writersOf(who, q, told.everybody()))) {
                 n++;
             }
         }
@@ -557,7 +558,7 @@ public final class EnemyLetters {
         if (refusal != 0) {
             return refusal;
         }
-        return sight.found == 0 ? NONE : SKILL_SETS - 1 & ~sight.inSome;
+        return sight.found == 0 ? NONE : ALL_SKILLS & ~sight.inSome;
     }
 
     public int ask(int slot, int person) {
@@ -606,12 +607,12 @@ public final class EnemyLetters {
             return NO_SUCH;
         }
         int mates = told.persons - 2;
-        int aside = 1 << person | 1 << other;
+        int aside = (1 << person) | (1 << other);
         long sum = 0;
         for (int set = 0; set <= told.everybody(); set++) {
             int ahead = Integer.bitCount(set);
             if ((set & aside) == 0 && ahead <= mates) {
-                int more = wordAlone(person, post, set | 1 << other) - wordAlone(person, post, set);
+                int more = wordAlone(person, post, set | (1 << other)) - wordAlone(person, post, set);
                 sum += (long) FACTORIALS[ahead] * FACTORIALS[mates - ahead] * more;
             }
         }
@@ -624,7 +625,7 @@ public final class EnemyLetters {
         }
         int ends = 0;
         for (int choices = 0; choices < 4; choices++) {
-            ends |= play(person, other, choices) << 2 * choices;
+            ends |= play(person, other, choices) << (2 * choices);
         }
         int atRest = 0;
         for (int choices = 0; choices < 4; choices++) {
@@ -639,7 +640,7 @@ public final class EnemyLetters {
         if (!isPair(person, other) || !isPart(x) || !isPart(y)) {
             return NO_SUCH_FEELING;
         }
-        int choices = x | y << 1;
+        int choices = x | (y << 1);
         return gain(play(person, other, choices), choices, 0);
     }
 
@@ -708,9 +709,7 @@ public final class EnemyLetters {
         int times = 0;
         for (int i = 0; i < n; i++) {
             runDrawn(seed + i);
-            if (trial.winner[post] == person) {
-                times++;
-            }
+            times += trial.times(person, post);
         }
         return times;
     }
@@ -718,7 +717,7 @@ public final class EnemyLetters {
     // ---- changes, counts, images ----
 
     public int rate(int person, int set) {
-        if (!isPerson(person) || set < 0 || set >= SKILL_SETS) {
+        if (!isPerson(person) || set < 0 || set > ALL_SKILLS) {
             return NO_SUCH;
         }
         if (told.acts.size > 0) {
@@ -842,6 +841,10 @@ public final class EnemyLetters {
         return isPerson(person) && isPost(post);
     }
 
+    private static boolean isIn(int bit, int set) {
+        return ((set >> bit) & 1) == 1;
+    }
+
     private static boolean isPart(int what) {
         return what == 0 || what == 1;
     }
@@ -941,12 +944,12 @@ public final class EnemyLetters {
     }
 
     private static int gain(int end, int choices, int side) {
-        return GAME_PRIZE * (end >> side & 1) - GAME_PRICE * (choices >> side & 1);
+        return GAME_PRIZE * ((end >> side) & 1) - GAME_PRICE * ((choices >> side) & 1);
     }
 
     private static boolean isContent(int ends, int choices, int side) {
-        int turned = choices ^ 1 << side;
-        return gain(ends >> 2 * choices, choices, side) >= gain(ends >> 2 * turned, turned, side);
+        int turned = choices ^ (1 << side);
+        return gain(ends >> (2 * choices), choices, side) >= gain(ends >> (2 * turned), turned, side);
     }
 
     /** The chance of one post for one person, or, without a post, the mean number of posts given. */
@@ -959,8 +962,7 @@ public final class EnemyLetters {
             if (weight > 0) {
                 trial.thaws = thaws;
                 trial.run();
-                above += weight * (post == NONE
-                    ? Integer.bitCount(trial.postsGiven()) : trial.winner[post] == person ? 1 : 0);
+                above += weight * (post == NONE ? Integer.bitCount(trial.postsGiven()) : trial.times(person, post));
             }
         }
         long below = 1;
@@ -973,7 +975,7 @@ public final class EnemyLetters {
     private long weightOf(int thaws, int gaps) {
         long weight = 1;
         for (int i = 0; i < gaps; i++) {
-            weight *= (thaws >> i & 1) == 1 ? told.odds : 10 - told.odds;
+            weight *= isIn(i, thaws) ? told.odds : 10 - told.odds;
         }
         return weight;
     }
@@ -1271,7 +1273,7 @@ public final class EnemyLetters {
         private boolean readSkills() {
             set = 0;
             for (int i = 0; i <= SKILLS && kind == NUMBER; i++) {
-                if (value >= SKILLS || (set >> value & 1) == 1) {
+                if (value >= SKILLS || isIn(value, set)) {
                     return refuse(2);
                 }
                 set |= 1 << value;
@@ -1410,7 +1412,7 @@ public final class EnemyLetters {
         }
 
         private void fade(int y, int from, int to) {
-            int thaw = thaws >> y - 1 & 1;
+            int thaw = (thaws >> (y - 1)) & 1;
             int base = y * MOST_PAIRS;
             for (int pair = from; pair < to; pair++) {
                 int feeling = faded(feelings[base - MOST_PAIRS + pair]);
@@ -1420,11 +1422,18 @@ public final class EnemyLetters {
 
         private int faded(int feeling) {
             switch (fading) {
-                case 1: return feeling - Integer.signum(feeling);
+                case 1: return feeling - signOf(feeling);
                 case 2: return feeling / 2;
                 case 3: return feeling < 0 ? feeling + 1 : feeling;
                 default: return feeling;
             }
+        }
+
+        private static int signOf(int feeling) {
+            if (feeling == 0) {
+                return 0;
+            }
+            return feeling < 0 ? -1 : 1;
         }
 
         private void suffer(Deeds deeds, int but, int y, int from, int to) {
@@ -1473,7 +1482,7 @@ public final class EnemyLetters {
         int towards(int person, int year, int sign) {
             int who = 0;
             for (int p = 0; p < land.persons; p++) {
-                if (p != person && Integer.signum(feeling(p, person, year)) == sign) {
+                if (p != person && signOf(feeling(p, person, year)) == sign) {
                     who |= 1 << p;
                 }
             }
@@ -1484,7 +1493,8 @@ public final class EnemyLetters {
             int n = 0;
             for (int a = 0; a < land.persons; a++) {
                 for (int b = a + 1; b < land.persons; b++) {
-                    if (Integer.signum(feeling(a, b, year)) == sign && Integer.signum(feeling(b, a, year)) == sign) {
+                    boolean isSo = signOf(feeling(a, b, year)) == sign;
+                    if (isSo && signOf(feeling(b, a, year)) == sign) {
                         n++;
                     }
                 }
@@ -1499,7 +1509,7 @@ public final class EnemyLetters {
         int hateBy(int person, int year, int set) {
             int sum = 0;
             for (int p = 0; p < land.persons; p++) {
-                if ((set >> p & 1) == 1) {
+                if (isIn(p, set)) {
                     sum -= Math.min(feeling(p, person, year), 0);
                 }
             }
@@ -1512,7 +1522,7 @@ public final class EnemyLetters {
             int least = 0;
             for (int p = 0; p < land.persons; p++) {
                 int feeling = feeling(p, person, year);
-                if ((set >> p & 1) == 1 && feeling < least) {
+                if (isIn(p, set) && feeling < least) {
                     least = feeling;
                     who = p;
                 }
@@ -1542,7 +1552,7 @@ public final class EnemyLetters {
             int most = -1;
             for (int p = 0; p < land.persons; p++) {
                 int word = wordFor(p, post);
-                if ((set >> p & 1) == 1 && word > most) {
+                if (isIn(p, set) && word > most) {
                     most = word;
                     who = p;
                 }
@@ -1553,12 +1563,17 @@ public final class EnemyLetters {
         int runnerUp(int post) {
             int free = land.everybody();
             for (int q = 0; q < land.posts; q++) {
-                boolean isAhead = land.when[q] < land.when[post] || land.when[q] == land.when[post] && q <= post;
+                boolean isAhead = land.when[q] < land.when[post]
+                    || (land.when[q] == land.when[post] && q <= post);
                 if (winner[q] != NONE && isAhead) {
                     free &= ~(1 << winner[q]);
                 }
             }
             return foremost(post, free);
+        }
+
+        int times(int person, int post) {
+            return winner[post] == person ? 1 : 0;
         }
 
         int postOf(int person) {
@@ -1611,7 +1626,7 @@ public final class EnemyLetters {
             fill(post + 1, free, sum);
             for (int p = 0; p < land.persons; p++) {
                 int word = course.wordFor(p, post);
-                if ((free >> p & 1) == 1 && word >= 0) {
+                if (isIn(p, free) && word >= 0) {
                     tried[post] = p;
                     fill(post + 1, free & ~(1 << p), sum + word + 1);
                 }
@@ -1714,7 +1729,7 @@ public final class EnemyLetters {
 
         void look(int slot, int person) {
             found = 0;
-            inAll = SKILL_SETS - 1;
+            inAll = ALL_SKILLS;
             inSome = 0;
             Arrays.fill(tally, 0);
             trial.reset();
