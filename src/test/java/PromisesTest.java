@@ -187,6 +187,13 @@ public final class PromisesTest {
         fault(a + "5;", 1, 26);
         fault(a + "land years 1 law 0 odds 0;", 1, 26);
         fault(a + "people;", 1, 26);
+        fault(a + "personz;", 1, 26);
+        fault(a + "persona;", 1, 26);
+        fault(a + "person{;", 1, 32);
+        fault(a + "person`;", 1, 32);
+        fault(a + "person/;", 1, 32);
+        fault(a + "person:;", 1, 32);
+        fault(a + "person 0 9;", 2, 35);
         fault(a + "\tperson;", 1, 26);
         fault(a + "person \u00e9;", 1, 33);
         fault(a + "person 6;", 2, 33);
