@@ -1155,21 +1155,15 @@ public final class EnemyLetters {
             behind = 0;
             advance();
             for (int i = 0; i <= tape.size && kind != END; i++) {
-                if (!readLine()) {
+                boolean fine = land.lines == 0 ? readOpening() : readLater();
+                if (!fine || !closeLine()) {
                     return false;
                 }
             }
             return true;
         }
 
-        private boolean readLine() {
-            boolean opening = land.lines == 0;
-            if (opening != isWord("land")) {
-                return refuse(1);
-            }
-            if (!(opening ? readOpening() : readLater())) {
-                return false;
-            }
+        private boolean closeLine() {
             if (kind != SIGN) {
                 return refuse(1);
             }
@@ -1179,8 +1173,7 @@ public final class EnemyLetters {
         }
 
         private boolean readOpening() {
-            advance();
-            if (!readWord("years") || !readNumber(1, MOST_YEARS, NONE)) {
+            if (!readWord("land") || !readWord("years") || !readNumber(1, MOST_YEARS, NONE)) {
                 return false;
             }
             land.years = number;
