@@ -38,7 +38,33 @@ public final class BoundsArgumentsTest {
             a.withoutLand("");
             a.withoutLand("land years 1 law 0 odds 0;person;person;post at 0");
         }
+        lastOfTheGreatest();
         Due.finish(6, 67);
+    }
+
+    /** Six persons, twelve years, five posts: what stands behind the last of each is nothing, and nobody. */
+    private static void lastOfTheGreatest() {
+        EnemyLetters x = Due.land("land years 12 law 0 odds 10;" + "person 0;".repeat(6) + "hates 5 4 60;hates 4 5 60;likes 5 0 60;"
+            + "likes 0 5 59;wrong 0 5 40 at 11;" + "post at 11 0;".repeat(5));
+        int y = 11;
+        long[][] asked = {{9, x.feels(5, 0, y), 20}, {9, x.feels(5, 4, y), -60}, {10, x.enemies(5, y), 16},
+            {10, x.enemies(4, y), 32}, {11, x.friends(5, y), 1}, {12, x.hate(5, y), 60}, {13, x.worst(5, y), 4},
+            {13, x.worst(3, y), -1}, {14, x.mild(5, y), 3}, {15, x.bitter(y), 48}, {16, x.praise(5), 300},
+            {17, x.dearest(5, y), 0}, {17, x.dearest(3, y), -1}, {18, x.foe(5, y), 4}, {18, x.foe(3, y), -1},
+            {19, x.steady(5, 4), 11}, {19, x.steady(5, 0), 10}, {20, x.cold(y), 13}, {21, x.harms(0), 40}, {22, x.hurts(5), 40},
+            {23, x.all(y), 120}, {24, x.top(4), 60}, {25, x.next(0), 5}, {25, x.next(4), -1}, {26, x.first(), 11},
+            {27, x.sours(5, 4), 0}, {27, x.sours(5, 0), -1}, {28, x.years(5, 4), 12}, {29, x.lowest(5, 0), 20},
+            {30, x.hated(y), 4}, {31, x.porter(y), 0}, {32, x.mutual(y), 1}, {33, x.rings(y), 0}, {34, x.word(5, 4), 60},
+            {35, x.pens(5, 4), 16}, {36, x.gets(0), 4}, {36, x.gets(1), 5}, {36, x.gets(4), -1}, {37, x.has(5), 1},
+            {38, x.may(4), 48}, {39, x.edge(0), 0}, {40, x.writes(5), 1}, {41, x.given(), 3}, {42, x.idle(), 15},
+            {43, x.hopes(5), 31}, {44, x.lacks(5, 4), 0}, {45, x.least(3, 5, 4), -1}, {46, x.target(3, 0), 0},
+            {47, x.learns(5, 1), 0}, {48, x.best(), 122}, {49, x.put(4), 5}, {50, x.ways(), 20}, {51, x.by(3), 2},
+            {52, x.law(), 0}, {53, x.spare(), -1}, {60, x.worth(5, 4, 63), 60}, {61, x.share(5, 4, 4, 0), 60},
+            {62, x.rests(4, 5), 1}, {63, x.wins(5, 4, 1, 1), 5}, {64, x.chance(5, 4, 0), -3}, {65, x.mean(0), -3},
+            {66, x.wrongs(5, 4, 1, y), -60}, {67, x.amends(5, 4, y), 0}};
+        for (int i = 0; i < asked.length; i++) {
+            Due.due((int) asked[i][0], "the last of the greatest land, " + i, asked[i][1], asked[i][2]);
+        }
     }
 
     private static Method method(String name) {

@@ -16,6 +16,7 @@ public final class BoundsChangesTest {
         promise63Wins();
         promise64Chance();
         promise64Thaws();
+        noTrace();
         promise65Mean();
         promise66Wrongs();
         promise67Amends();
@@ -91,6 +92,10 @@ public final class BoundsChangesTest {
         EnemyLetters three = Due.land(ONE + "person 0;person;person;hates 1 0 1;likes 2 0 9;post at 0 0;");
         share(three, 0, 1, 1, 1);
         share(three, 0, 2, 0, 1);
+        EnemyLetters last = Due.land(ONE + "person;person;person;person 0;hates 0 3 6;hates 1 3 3;hates 2 3 1;post at 0 0;");
+        Due.due(61, "share for the last, above", last.share(3, 0, 1, 0), 4);
+        Due.due(61, "share for the last, below", last.share(3, 0, 1, 1), 3);
+        Due.due(61, "share of the first for the last, above", last.share(3, 0, 0, 0), 13);
         EnemyLetters half = Due.land(ONE + "person 0;person;person;hates 1 0 1;hates 2 0 1;post at 0 0;");
         share(half, 0, 1, 1, 2);
         share(half, 0, 2, 1, 2);
@@ -124,6 +129,10 @@ public final class BoundsChangesTest {
         Due.due(63, "by a like of 9", Due.land(three + "likes 2 0 9;" + post).wins(0, 1, 1, 0), 5);
         Due.due(63, "the last does it to nobody", Due.land(ONE + "person;person 0;post at 0 0;").wins(1, 0, 1, 0), -4);
         Due.due(63, "the last, and he gets one", Due.land(ONE + "person;person;post at 0;post at 0;").wins(1, 0, 1, 0), 5);
+        Due.due(63, "both do, the first", Due.land(three + post).wins(0, 1, 1, 1), 5);
+        Due.due(63, "both do, the other one", Due.land(three + post).wins(1, 0, 1, 1), -4);
+        Due.due(63, "the other one alone", Due.land(three + "hates 2 0 9;" + post).wins(0, 1, 0, 1), 0);
+        Due.due(63, "the other one alone, not enough", Due.land(three + "hates 2 0 10;" + post).wins(0, 1, 0, 1), 9);
         Due.due(63, "neither: he gets none", Due.land(three + post).wins(0, 1, 0, 0), 0);
         Due.due(63, "neither: he gets one", Due.land(three + "hates 2 0 1;" + post).wins(0, 1, 0, 0), 9);
         Due.due(63, "in year 0, for a post of year 2 by law 2", Due.land("land years 4 law 2 odds 0;person 0;person 0;person;"
@@ -203,6 +212,39 @@ public final class BoundsChangesTest {
         EnemyLetters x = Due.land(text);
         Due.due(65, "mean(0) of " + text, x.mean(0), above);
         Due.due(65, "mean(1) of " + text, x.mean(1), below);
+    }
+
+    /** What is asked of a land as it would be leaves nothing behind for the next question. */
+    private static void noTrace() {
+        noTrace("land years 2 law 0 odds 10;person;person 0;hates 1 0 1;hates 0 1 1;wrong 0 1 9 at 5;post at 1 0;post at 1 1;");
+        noTrace("land years 2 law 1 odds 10;person;person 0;hates 1 0 2;hates 0 1 2;wrong 0 1 9 at 5;post at 1 0;post at 1 1;");
+        noTrace("land years 3 law 1 odds 10;person 0;person 0 1;person;person;hates 2 0 3;hates 3 0 2;hates 2 1 4;"
+            + "likes 3 1 2;wrong 0 2 3 at 0;wrong 1 3 6 at 2;post at 2 0;post at 1 1;post at 2 0 1;post at 0;");
+    }
+
+    private static void noTrace(String text) {
+        Due.Call[] calls = {x -> x.learns(0, 0), x -> x.learns(0, 1), x -> x.least(1, 0, 0), x -> x.learns(1, 0), x -> x.learns(0, 2), x -> x.least(0, 2, 0),
+            x -> x.least(1, 3, 2), x -> x.target(1, 0), x -> x.by(0), x -> x.by(2), x -> x.law(), x -> x.spare(),
+            x -> x.fits(0, 0), x -> x.fits(0, 1), x -> x.surely(1, 1), x -> x.leaves(1, 0), x -> x.laws(0), x -> x.laws(1),
+            x -> x.rests(0, 1), x -> x.wins(0, 1, 1, 1), x -> x.wins(1, 0, 1, 0), x -> x.chance(1, 2, 0), x -> x.chance(0, 0, 1),
+            x -> x.mean(0), x -> x.drawn(0, 0), x -> x.drawn(5, 1), x -> x.luck(3, 20, 0, 0), x -> x.best(), x -> x.put(1)};
+        for (int i = 0; i < calls.length; i++) {
+            long alone = calls[i].on(withRows(text));
+            for (int j = 0; j < calls.length; j++) {
+                EnemyLetters x = withRows(text);
+                calls[j].on(x);
+                Due.due(64, "question " + i + " behind question " + j, calls[i].on(x), alone);
+            }
+        }
+    }
+
+    private static EnemyLetters withRows(String text) {
+        EnemyLetters x = Due.land(text);
+        x.row(0, 0, 2);
+        x.row(1, 1, 2);
+        x.write(1, 0, 1);
+        x.write(1, 1, 1);
+        return x;
     }
 
     private static void promise65Mean() {

@@ -106,6 +106,7 @@ public final class BoundsFeelingsTest {
         Due.due(14, "mild(0, 0): he himself is no other one", x.mild(0, 0), 1);
         Due.due(14, "mild(1, 0): all others", x.mild(1, 0), 5);
         Due.due(15, "bitter(0): -1 hates, 0 and 1 do not", x.bitter(0), 18);
+        Due.due(15, "bitter(0): one who hates two is one", Due.land(ONE + SIX + "hates 3 0 1;hates 3 1 1;").bitter(0), 8);
         Due.due(17, "dearest(0, 0)", x.dearest(0, 0), 5);
         Due.due(18, "foe(1, 0): by 1", x.foe(1, 0), 0);
         Due.due(18, "foe(2, 0): by 0 is nobody", x.foe(2, 0), -1);
@@ -294,6 +295,7 @@ public final class BoundsFeelingsTest {
         Due.due(29, "lowest(1, 0), the least there is", y.lowest(1, 0), -60);
         Due.due(29, "lowest of one year", Due.land(ONE + TWO + bond(60)).lowest(0, 1), 60);
         Due.due(29, "lowest in year 0 alone", Due.land("land years 3 law 2 odds 0;" + TWO + bond(-9)).lowest(0, 1), -9);
+        Due.due(29, "lowest in year 1 alone", Due.land("land years 3 law 2 odds 0;" + TWO + "wrong 1 0 9 at 1;").lowest(0, 1), -9);
         Due.due(28, "years(0, 1): -1 fades to 0", Due.land("land years 3 law 1 odds 0;" + TWO + bond(-2)).years(0, 1), 2);
     }
 
@@ -304,6 +306,7 @@ public final class BoundsFeelingsTest {
             .hated(0), 1);
         Due.due(30, "hated, the first of several: 3 and 2 are 5", Due.land(ONE + "person;person;person;person;hates 0 3 5;"
             + "hates 0 1 3;hates 2 1 2;").hated(0), 1);
+        Due.due(30, "hated, the first person", Due.land(ONE + SIX + "hates 5 0 2;hates 0 5 1;").hated(0), 0);
         Due.due(30, "hated, the last", Due.land(ONE + SIX + "hates 0 5 2;hates 5 0 1;").hated(0), 5);
     }
 
@@ -370,7 +373,15 @@ public final class BoundsFeelingsTest {
         Due.due(33, "rings: not closed", Due.land(three + "hates 0 1 1;hates 1 2 1;hates 0 2 1;").rings(0), 0);
         Due.due(33, "rings: two pairs are none",
             Due.land(three + "hates 0 1 1;hates 1 0 1;hates 1 2 1;hates 2 1 1;").rings(0), 0);
-        Due.due(33, "rings: closed by 0 is none", Due.land(three + "hates 0 1 1;hates 1 2 1;likes 2 0 1;").rings(0), 0);
+        String[][] rounds = {{"0 1", "1 2", "2 0"}, {"1 0", "0 2", "2 1"}};
+        for (String[] round : rounds) {
+            for (int open = 0; open < 3; open++) {
+                String rest = three + "hates " + round[(open + 1) % 3] + " 1;hates " + round[(open + 2) % 3] + " 1;";
+                Due.due(33, "rings: closed by 0 is none, " + round[open], Due.land(rest).rings(0), 0);
+                Due.due(33, "rings: closed by a like is none", Due.land(rest + "likes " + round[open] + " 1;").rings(0), 0);
+                Due.due(33, "rings: closed by 1", Due.land(rest + "hates " + round[open] + " 1;").rings(0), 1);
+            }
+        }
         EnemyLetters x = Due.land("land years 2 law 1 odds 0;person;person;person;hates 0 1 2;hates 1 2 2;hates 2 0 1;"
             + "hates 1 0 2;");
         Due.due(33, "rings, in year 1 no more", 10 * x.rings(0) + x.rings(1), 10);

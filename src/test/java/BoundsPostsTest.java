@@ -30,6 +30,7 @@ public final class BoundsPostsTest {
         promises54To58Numbers();
         promises54To58Refused();
         promise57FirstOfSeveral();
+        promise57LastOfAll();
         promise59Laws();
         Due.finish(34, 59);
     }
@@ -249,6 +250,14 @@ public final class BoundsPostsTest {
         rows(FIVE + "post at 0 0 1 2 3 4;post at 0 0;post at 0;", 152, 5, 0, -1, 1);
         // 0 has the words 3 and 5, 1 has 3 for the first alone
         rows(ONE + "person 0 1;person 0;person;person;hates 2 0 3;hates 3 0 2;hates 2 1 3;post at 0 0;post at 0 0 1;", 10, 1, 1, 0);
+        Due.due(49, "put(1), asked first of all", Due.land(ONE + "person;person;post at 0;post at 0;").put(1), 1);
+        Due.due(50, "ways(), asked first of all", Due.land(ONE + "person;person;post at 0;post at 0;").ways(), 2);
+        EnemyLetters change = Due.land(ONE + "person 0;person;hates 1 0 5;post at 0 0;");
+        Due.due(49, "put(0)", change.put(0), 0);
+        Due.due(50, "ways()", change.ways(), 1);
+        change.amends(0, 1, 0);
+        Due.due(49, "put(0) behind an act", change.put(0), -1);
+        Due.due(48, "best() behind an act", change.best(), 0);
         Due.due(48, "none is given by asking", Due.land(FIVE + "post at 0;post at 0;").given(), 3);
     }
 
@@ -434,6 +443,23 @@ public final class BoundsPostsTest {
         Due.due(57, "ask, the last", y.ask(0, 0), 2);
         Due.due(57, "ask of one of whom all is one: none", y.ask(0, 1), -1);
         Due.due(58, "leaves of one of whom all is one", y.leaves(0, 1), 64);
+    }
+
+    /** The last person and the last post: who gets it tells all that is to know. */
+    private static void promise57LastOfAll() {
+        EnemyLetters x = Due.land(ONE + "person;".repeat(5) + "person 0;hates 0 5 1;" + "post at 0 1;".repeat(4) + "post at 0 0;");
+        x.row(0, 0, 0);
+        Due.due(57, "ask of the last", x.ask(0, 5), 0);
+        Due.due(58, "leaves of the last", x.leaves(0, 5), 32);
+        x.row(0, 0, 2);
+        x.write(0, 1, -1);
+        Due.due(57, "ask, the last post", x.ask(0, 5), 4);
+        Due.due(58, "leaves, the last post", x.leaves(0, 5), 16);
+        x.write(0, 0, 4);
+        x.write(0, 1, 5);
+        Due.due(54, "fits: the last got the last", x.fits(0, 5), 16);
+        Due.due(57, "ask: no more to know", x.ask(0, 5), -1);
+        Due.due(58, "leaves: as now", x.leaves(0, 5), 16);
     }
 
     private static void promise59Laws() {

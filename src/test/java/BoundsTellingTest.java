@@ -393,6 +393,26 @@ public final class BoundsTellingTest {
             fault(word + " 0;", 1, 0);
         }
         fault("land land years", 1, 5);
+        String whole = "land years 2 law 3 odds 9;person;person;likes 0 1 1;hates 0 1 1;wrong 0 1 1 at 0;post at 0;";
+        fine(whole, 7);
+        for (int i = 0; i < whole.length(); i++) {
+            int from = i;
+            while (from > 0 && Character.isLetter(whole.charAt(from - 1))) {
+                from--;
+            }
+            if (Character.isLetter(whole.charAt(i))) {
+                fault(whole.substring(0, i) + "q" + whole.substring(i + 1), 1, from);
+                fault(whole.substring(0, i) + "zz" + whole.substring(i), 1, from);
+            }
+        }
+        for (char sign = 'a'; sign <= 'z'; sign++) {
+            fault(OPEN + "person" + sign + ";", 1, 26);
+            fault(OPEN + sign + "person;", 1, 26);
+        }
+        for (char sign = '0'; sign <= '9'; sign++) {
+            fault("land years 2" + sign + " law 0 odds 0;", 2, 11);
+            fault(OPEN + "person 7" + sign + ";", 2, 33);
+        }
         fault(OPEN + "person;land years 1 law 0 odds 0;", 1, 33);
     }
 
